@@ -58,6 +58,9 @@ final class BreadTest {
         due.is("998 of 1997", y.ship(2, 3), 998);
         due.is("all to a crew", y.share(1, 2), 999);
         due.is("none to no crew", y.ship(2, 3), 0);
+        NineInThePack z = Due.with("s0014,0,0;s0009,1,1;");
+        due.is("one man alone", z.share(1, 0), 0);
+        due.is("has all", z.ship(0, 3), 13);
     }
 
     private static void sharingIsRefused() {
@@ -83,6 +86,10 @@ final class BreadTest {
         // 2 goes to 0, whose crew is 9 then and one man is lost: 70; 0 and 1 go to 2 and leave it the same.
         due.is("givenUp(10, 0)", y.givenUp(10, 0), 0);
         due.is("givenUp(10, 1)", y.givenUp(10, 1), 70);
+        NineInThePack z = Due.with("s0010,0,0;s00099,50,0;s0050,60,0;s0010,-9,0;");
+        // 1's bread feeds 2: 10 + 0 + 10; the loss of 2 comes to the same, all else leaves 70.
+        due.is("a ship in the middle", z.givenUp(10, 0), 1);
+        due.is("hunger then", z.givenUp(10, 1), 20);
     }
 
     /** Bread that goes to a hungry ship helps, and it goes to the nearest, of several to the least number. */

@@ -31,6 +31,7 @@ final class LeadsTest {
         due.is("there(0, 4)", x.there(0, 4), -9);
         x.set(0, 11);
         due.is("there(0, 4) with more reach", x.there(0, 4), 4);
+        due.is("the day stays", x.count(1), 0);
         due.is("nothing is refused", Due.refusals(x), 0);
     }
 
@@ -88,6 +89,14 @@ final class LeadsTest {
         NineInThePack y = Due.with("s0000,0,0;s1000,49,0;", EAST);
         due.is("a day ahead", y.know(0, 39), 1);
         due.is("on the last day", y.know(0, 40), 3);
+        due.is("the day stays", y.count(1), 0);
+        y.go(20);
+        due.is("twenty days later a day ahead", y.know(0, 19), 1);
+        due.is("twenty days later", y.know(0, 20), 3);
+        y.set(0, 9);
+        due.is("with less reach", y.know(0, 20), 1);
+        NineInThePack z = Due.with("s0000,0,0;s1000,10,0;s0000,-10,0;");
+        due.is("on the day itself", z.know(0, 1), 7);
         due.is("know(0, 41)", x.know(0, 41), -6);
         due.is("know(0, -1)", x.know(0, -1), -4);
         due.is("know(5, -1)", x.know(5, -1), -1);
@@ -115,6 +124,9 @@ final class LeadsTest {
         due.is("with more reach", x.groups(), 1);
         NineInThePack y = Due.with("s0000,0,0;s0000,50,0;s0000,10,0;s0000,40,0;s0000,30,0;s0000,20,0;");
         due.is("a row told out of order", y.groups(), 1);
+        NineInThePack z = Due.with("s0000,0,0;s0000,50,0;s0000,9,0;s0000,59,0;s0000,5,5;s0000,-90,0;");
+        due.is("three groups told in turns", z.groups(), 3);
+        due.is("as often as asked", z.groups(), 3);
     }
 
     private static void refused() {

@@ -6,6 +6,7 @@ final class LotsTest {
         hungerNeedsNoWind();
         pairsByDrawnWinds();
         lateOnesByNoneAtFirst();
+        spunOnesByTheDay();
         refused();
         due.end();
     }
@@ -69,6 +70,54 @@ final class LotsTest {
         due.is("a late one stays on the first day", x.lots(1, 1, 1), 1);
         x.set(1, 3);
         due.is("four furlongs apart", x.lots(1, 1, 1), 0);
+        lateOnesByTheOneAhead();
+    }
+
+    /** In three days a late one goes by the first two winds: the third is what it lacks. */
+    private static void lateOnesByTheOneAhead() {
+        for (int seed = 1; seed <= 20; seed++) {
+            long z = seed;
+            for (int i = 0; i < 5; i++) {
+                z = next(z);
+            }
+            int far = Math.max(Math.abs(draw(z)), Math.abs(draw(next(z))));
+            NineInThePack x = Due.with("s0000,0,0;s3000,0,0;", "w644;w011;");
+            x.set(1, Math.max(1, far));
+            due.is("seen, lots(3, " + seed + ", 1)", x.lots(3, seed, 1), 1);
+            if (far > 1) {
+                x.set(1, far - 1);
+                due.is("unseen, lots(3, " + seed + ", 1)", x.lots(3, seed, 1), 0);
+            }
+        }
+    }
+
+    /** A spun one of figure 1 goes the other way on days that 3 divides, counted from the DAY that is. */
+    private static void spunOnesByTheDay() {
+        for (int day = 1; day <= 3; day++) {
+            NineInThePack x = Due.with("s2000,0,0;s4100,0,0;");
+            x.go(day);
+            for (int n = 1; n <= 5; n++) {
+                long z = 5;
+                int east = 0;
+                int north = 0;
+                for (int i = 0; i < n; i++) {
+                    z = next(z);
+                    int e = draw(z);
+                    z = next(z);
+                    int no = draw(z);
+                    boolean isOther = (day + i) % 3 == 0;
+                    east += isOther ? 2 * no : 0;
+                    north += isOther ? 2 * e : 0;
+                }
+                int far = Math.max(Math.abs(east), Math.abs(north));
+                x.set(1, Math.max(1, far));
+                due.is("seen on " + day + ", lots(" + n + ", 5, 1)", x.lots(n, 5, 1), 1);
+                if (far > 1) {
+                    x.set(1, far - 1);
+                    due.is("unseen on " + day + ", lots(" + n + ", 5, 1)", x.lots(n, 5, 1), 0);
+                }
+            }
+        }
     }
 
     private static void refused() {
