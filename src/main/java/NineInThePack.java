@@ -646,11 +646,6 @@ public final class NineInThePack {
             north = other.north;
         }
 
-        void driftBy(Air air, Drift drift) {
-            east += drift.eastward(air, figure);
-            north += drift.northward(air, figure);
-        }
-
         /** A DAY's meal: what lacks of it. */
         int eat() {
             int eaten = Math.min(bread, crew);
@@ -775,8 +770,11 @@ public final class NineInThePack {
         int passDay(Air air, Drift[] drifts) {
             int lacking = 0;
             for (int i = 0; i < shipCount; i++) {
-                ships[i].driftBy(air, drifts[ships[i].kind]);
-                lacking += ships[i].eat();
+                Ship ship = ships[i];
+                Drift drift = drifts[ship.kind];
+                ship.east += drift.eastward(air, ship.figure);
+                ship.north += drift.northward(air, ship.figure);
+                lacking += ship.eat();
             }
             day++;
             return lacking;

@@ -3,21 +3,26 @@ import java.lang.management.ManagementFactory;
 
 /** All calls of a run live in one room: what an object needs is made with it, and no call makes more. */
 final class RoomTest {
-    private static final int ROUNDS = 200;
+    /** So many that an object stays under its 512 calls. */
+    private static final int ROUNDS = 10;
+    private static final int OBJECTS = 20;
     private static final Due due = new Due();
 
     public static void main(String[] args) {
         if (ManagementFactory.getThreadMXBean() instanceof ThreadMXBean threads) {
             round(madeWithShips());
-            NineInThePack x = madeWithShips();
+            NineInThePack[] ready = new NineInThePack[OBJECTS];
+            for (int i = 0; i < OBJECTS; i++) {
+                ready[i] = madeWithShips();
+            }
             long before = threads.getCurrentThreadAllocatedBytes();
-            for (int i = 0; i < ROUNDS; i++) {
-                round(x);
+            for (int i = 0; i < OBJECTS * ROUNDS; i++) {
+                round(ready[i % OBJECTS]);
             }
             long made = threads.getCurrentThreadAllocatedBytes() - before;
-            due.is("bytes of " + ROUNDS + " rounds, " + made + ", are few", made < 16L * ROUNDS ? 1 : 0, 1);
+            due.is("bytes of all rounds, " + made + ", are few", made < 16L * OBJECTS * ROUNDS ? 1 : 0, 1);
             before = threads.getCurrentThreadAllocatedBytes();
-            x = new NineInThePack();
+            ready[0] = new NineInThePack();
             made = threads.getCurrentThreadAllocatedBytes() - before;
             due.is("bytes of a new object, " + made + ", are few", made < 4096 ? 1 : 0, 1);
         }
